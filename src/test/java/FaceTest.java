@@ -1,0 +1,129 @@
+import java.io.IOException;
+import java.lang.reflect.Constructor;
+import java.lang.reflect.Field;
+import java.lang.reflect.Member;
+import java.lang.reflect.Method;
+import java.lang.reflect.Modifier;
+import java.nio.file.Files;
+import java.nio.file.Path;
+import java.util.Arrays;
+import java.util.HashSet;
+import java.util.Set;
+import java.util.TreeSet;
+import java.util.regex.Matcher;
+import java.util.regex.Pattern;
+
+/** The face of the class, and the rules of LANGUAGE.md that the text of the class shows. */
+public final class FaceTest {
+    private static final String[] FACE = {
+        "int set(int,int) IllegalArgumentException IllegalStateException",
+        "int setBend(int,int,int) IllegalArgumentException",
+        "int addStar(int,int) IllegalArgumentException IllegalStateException",
+        "int aim(int) IndexOutOfBoundsException IllegalStateException",
+        "int learn() IllegalStateException",
+        "int learnAll() IllegalStateException",
+        "int forget(int) IndexOutOfBoundsException",
+        "int star(int,int) IndexOutOfBoundsException IllegalArgumentException",
+        "double correction(int,boolean) IndexOutOfBoundsException",
+        "int source(int) IndexOutOfBoundsException",
+        "int lessons(int) IndexOutOfBoundsException",
+        "double miss(int) IllegalArgumentException IllegalStateException",
+        "int value(int) IllegalArgumentException",
+        "int setting(int) IllegalArgumentException",
+        "int bend(int,int) IllegalArgumentException",
+        "double missOf(int) IndexOutOfBoundsException",
+        "int slewTo(int) IndexOutOfBoundsException",
+        "int found()",
+        "int nearest()",
+        "int tour(int,int) IllegalArgumentException IndexOutOfBoundsException",
+        "int append(int) IllegalArgumentException IllegalStateException",
+        "int clearText()",
+        "int carryOut()",
+        "int undo() IllegalStateException",
+        "long digest()",
+    };
+
+    private static final String[] FORBIDDEN = {
+        "\\bimport\\b", "\\bpackage\\b", "\\bDouble\\b", "\\bFloat\\b", "->", "::", "\\bassert\\b",
+        "\\bfinally\\b", "\\bsynchronized\\b", "\\bcatch\\b", "\\bprotected\\b",
+        "\\.(equals|hashCode|toString)\\b", "\\b\\w+Exact\\b", "\\b(MAX|MIN)_VALUE\\b",
+        "static final (double|float)\\b", "\\bSystem\\.(?!arraycopy\\b)\\w+",
+        "\\bMath\\.(?!(abs|min|max|floorMod)\\b)\\w+",
+    };
+
+    public static void main(String[] args) throws IOException {
+        members();
+        privateNames();
+        source();
+        Checks.finish("FaceTest");
+    }
+
+    private static void members() {
+        Set<String> got = new TreeSet<>();
+        for (Method method : BentScope.class.getDeclaredMethods()) {
+            if (!isPrivate(method)) {
+                Checks.dueTrue(method + " is public", Modifier.isPublic(method.getModifiers()));
+                got.add(told(method));
+            }
+        }
+        Set<String> want = new TreeSet<>(Arrays.asList(FACE));
+        Checks.dueTrue("the methods of the face: " + got, got.equals(want));
+        for (Constructor<?> constructor : BentScope.class.getDeclaredConstructors()) {
+            Checks.due("parameters of " + constructor, constructor.getParameterCount(), 0);
+        }
+        for (Field field : BentScope.class.getDeclaredFields()) {
+            Checks.dueTrue(field + " is private", isPrivate(field) || field.getName().equals("NONE"));
+        }
+        Checks.dueTrue("final", Modifier.isFinal(BentScope.class.getModifiers()));
+        Checks.due("NONE", BentScope.NONE, -1);
+    }
+
+    private static void privateNames() {
+        Set<String> face = new HashSet<>();
+        for (String line : FACE) {
+            face.add(line.substring(line.indexOf(' ') + 1, line.indexOf('(')));
+        }
+        privateNames(BentScope.class, face);
+        for (Class<?> inner : BentScope.class.getDeclaredClasses()) {
+            Checks.dueTrue(inner + " is static", Modifier.isStatic(inner.getModifiers()));
+            Checks.dueTrue(inner + " has few fields", inner.getDeclaredFields().length <= 20);
+            privateNames(inner, face);
+        }
+    }
+
+    private static void privateNames(Class<?> owner, Set<String> face) {
+        for (Method method : owner.getDeclaredMethods()) {
+            Checks.dueTrue(method + " bears a name of the face",
+                !isPrivate(method) || !face.contains(method.getName()));
+            Checks.dueTrue(method + " has few parameters", method.getParameterCount() <= 7);
+        }
+    }
+
+    private static void source() throws IOException {
+        String text = Files.readString(Path.of("src/main/java/BentScope.java"));
+        String code = text.replaceAll("(?s)/\\*.*?\\*/", "").replaceAll("//[^\n]*", "")
+            .replaceAll("\"[^\"]*\"", "\"\"");
+        for (String pattern : FORBIDDEN) {
+            Matcher matcher = Pattern.compile(pattern).matcher(code);
+            Checks.dueTrue("the text has " + pattern, !matcher.find());
+        }
+    }
+
+    private static boolean isPrivate(Member member) {
+        return Modifier.isPrivate(member.getModifiers());
+    }
+
+    private static String told(Method method) {
+        StringBuilder line = new StringBuilder();
+        line.append(method.getReturnType().getSimpleName()).append(' ').append(method.getName());
+        line.append('(');
+        for (int i = 0; i < method.getParameterCount(); i++) {
+            line.append(i == 0 ? "" : ",").append(method.getParameterTypes()[i].getSimpleName());
+        }
+        line.append(')');
+        for (Class<?> thrown : method.getExceptionTypes()) {
+            line.append(' ').append(thrown.getSimpleName());
+        }
+        return line.toString();
+    }
+}
