@@ -252,7 +252,6 @@ public final class BentScope {
 
     public int tour(int stars, int place)
             throws IllegalArgumentException, IndexOutOfBoundsException {
-        // An unsigned shift, so that bit 31 counts as a star that there is not.
         if (stars == 0 || stars >>> now.stars.count != 0 || Integer.bitCount(stars) > MAX_TOUR) {
             throw new IllegalArgumentException("no set of one to five stars");
         }
@@ -433,7 +432,7 @@ public final class BentScope {
         long one = 1L << FRACTION_BITS;
         long fraction = (long) (scaled * one) - one;
         long bits = ((long) (exponent + EXPONENT_BIAS) << FRACTION_BITS) + fraction;
-        return number < 0.0 ? bits | 1L << 63 : bits;
+        return number < 0.0 ? bits | (1L << 63) : bits;
     }
 
     private static double withoutSign(double number) {

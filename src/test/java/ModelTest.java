@@ -31,9 +31,19 @@ public final class ModelTest {
         Checks.finish("ModelTest");
     }
 
+    /** Some runs learn all the time, in the slowest way, so that the time ends. */
+    private int method() {
+        int method = random.nextInt(25);
+        return method == 0 && bold == 2 ? 5 : method;
+    }
+
     private void play(int run) {
+        if (bold == 2) {
+            scope.set(0, 1);
+            model.answer(0, 0, 1, 0);
+        }
         for (int call = 0; call < CALLS; call++) {
-            int method = random.nextInt(25);
+            int method = method();
             int a = argument(method, 0);
             int b = argument(method, 1);
             int c = argument(method, 2);

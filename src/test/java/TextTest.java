@@ -12,6 +12,7 @@ public final class TextTest {
         ordersThatFail();
         savedStates();
         fullTexts();
+        textsAfterTexts();
         Checks.finish("TextTest");
     }
 
@@ -130,6 +131,10 @@ public final class TextTest {
         Checks.due("star 19", Checks.carryOut(scope, "a0;a19;"), 1);
         scope.set(3, 0);
         Checks.due("star 19", Checks.carryOut(scope, "a0;a19;"), 2);
+        Checks.due("no star 20", Checks.carryOut(scope, "a0;a20;"), 1);
+        BentScope other = new BentScope();
+        other.set(3, 0);
+        Checks.due("no star 1", Checks.carryOut(other, "s0,0;a0;a1;"), 2);
     }
 
     private static void savedStates() {
@@ -160,5 +165,21 @@ public final class TextTest {
         Checks.due("99 bytes", Checks.carryOut(scope, text.toString()), -109);
         scope.append('0');
         Checks.due("100 bytes", scope.carryOut(), -109);
+        text.setLength(97);
+        Checks.due("ends before the sign", Checks.carryOut(scope, text.substring(0, 95) + "l;b13"), -110);
+        Checks.due("ends after a digit", Checks.carryOut(scope, text.substring(0, 95) + "l;l;0"), -109);
+        Checks.due("ends in a number", Checks.carryOut(scope, text.substring(0, 95) + "l;a00"), -110);
+    }
+
+    /** Neither an error nor the bytes of an earlier text are left. */
+    private static void textsAfterTexts() {
+        BentScope scope = new BentScope();
+        Checks.due("error", Checks.carryOut(scope, "b13+99x"), -16);
+        Checks.due("right", Checks.carryOut(scope, "b13+99;"), 1);
+        Checks.due("shorter", Checks.carryOut(scope, "b13+9"), -15);
+        Checks.due("shorter", Checks.carryOut(scope, "b13"), -13);
+        Checks.due("right", Checks.carryOut(scope, "s0,600;"), 1);
+        Checks.due("shorter", Checks.carryOut(scope, "s0,600"), -16);
+        Checks.due("right", Checks.carryOut(scope, "a0;"), 1);
     }
 }

@@ -137,6 +137,9 @@ public final class ValuesTest {
         Checks.due("lessons", scope.lessons(0), 0);
         Checks.due("all", scope.value(8), 4);
         Checks.due("taught", scope.value(9), 2);
+        BentScope all = taughtIn(0, 23, 1, 22);
+        Checks.due("all", all.value(8), 4);
+        Checks.due("taught", all.value(9), 4);
         Checks.dueThrow("region -1", INDEX, () -> scope.lessons(-1));
         Checks.dueThrow("region 24", INDEX, () -> scope.lessons(24));
     }

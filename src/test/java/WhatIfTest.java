@@ -9,6 +9,7 @@ public final class WhatIfTest {
         nearest();
         tours();
         equalTours();
+        lastTour();
         wrongTours();
         Checks.finish("WhatIfTest");
     }
@@ -75,6 +76,11 @@ public final class WhatIfTest {
         Checks.due("within the limits now", scope.nearest(), 0);
         scope.set(3, 5101);
         Checks.due("lowest limit", scope.nearest(), 0);
+        scope.set(3, 0);
+        for (int star = 5; star < 20; star++) {
+            scope.addStar(9000, 2700);
+            Checks.due("only stars that there are", scope.nearest(), 0);
+        }
     }
 
     private static void tours() {
@@ -129,6 +135,18 @@ public final class WhatIfTest {
         Checks.due("first", other.tour(7, 0), 1);
         Checks.due("then", other.tour(7, 1), 0);
         Checks.due("last", other.tour(7, 2), 2);
+    }
+
+    /** The last of all orders is the shortest. */
+    private static void lastTour() {
+        BentScope scope = new BentScope();
+        for (int star = 0; star < 5; star++) {
+            scope.addStar(10000 - 2000 * star, 2700);
+        }
+        Checks.due("downwards", scope.tour(31, BentScope.NONE), 5 * 34);
+        for (int place = 0; place < 5; place++) {
+            Checks.due("downwards, place " + place, scope.tour(31, place), 4 - place);
+        }
     }
 
     private static void wrongTours() {
