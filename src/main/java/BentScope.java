@@ -286,7 +286,12 @@ public final class BentScope {
             return -10 - error;
         }
         saveState();
-        return carryOutOrders();
+        int carried = 0;
+        text.rewind();
+        while (carried < MAX_TEXT && text.readOrder() && now.obey(text)) {
+            carried++;
+        }
+        return carried;
     }
 
     // ---- state
@@ -347,15 +352,6 @@ public final class BentScope {
     private int timeNow(int star) {
         now.planAim(star, whatIf);
         return now.mount.timeTo(whatIf, now.settings[SPEED]);
-    }
-
-    private int carryOutOrders() {
-        int carried = 0;
-        text.rewind();
-        while (carried < MAX_TEXT && text.readOrder() && now.obey(text)) {
-            carried++;
-        }
-        return carried;
     }
 
     private void saveState() {

@@ -152,23 +152,28 @@ public final class TextTest {
     }
 
     private static void fullTexts() {
-        BentScope scope = new BentScope();
-        scope.addStar(0, 600);
-        StringBuilder text = new StringBuilder();
+        StringBuilder orders = new StringBuilder();
         for (int i = 0; i < 20; i++) {
-            text.append("a0;l;");
+            orders.append("a0;l;");
         }
-        Checks.due("100 bytes", Checks.carryOut(scope, text.toString()), 40);
+        BentScope scope = withOneStar();
+        Checks.due("100 bytes", Checks.carryOut(scope, orders.toString()), 40);
         Checks.due("lessons", scope.lessons(0), 20);
         Checks.due("length", scope.clearText(), 100);
-        text.setLength(99);
-        Checks.due("99 bytes", Checks.carryOut(scope, text.toString()), -109);
-        scope.append('0');
-        Checks.due("100 bytes", scope.carryOut(), -109);
-        text.setLength(97);
-        Checks.due("ends before the sign", Checks.carryOut(scope, text.substring(0, 95) + "l;b13"), -110);
-        Checks.due("ends after a digit", Checks.carryOut(scope, text.substring(0, 95) + "l;l;0"), -109);
-        Checks.due("ends in a number", Checks.carryOut(scope, text.substring(0, 95) + "l;a00"), -110);
+        BentScope other = withOneStar();
+        Checks.due("99 bytes", Checks.carryOut(other, orders.substring(0, 99)), -109);
+        other.append('0');
+        Checks.due("100 bytes", other.carryOut(), -109);
+        String start = orders.substring(0, 95);
+        Checks.due("ends before the sign", Checks.carryOut(withOneStar(), start + "l;b13"), -110);
+        Checks.due("ends after a digit", Checks.carryOut(withOneStar(), start + "l;l;0"), -109);
+        Checks.due("ends in a number", Checks.carryOut(withOneStar(), start + "l;a00"), -110);
+    }
+
+    private static BentScope withOneStar() {
+        BentScope scope = new BentScope();
+        scope.addStar(0, 600);
+        return scope;
     }
 
     /** Neither an error nor the bytes of an earlier text are left. */
