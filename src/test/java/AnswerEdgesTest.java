@@ -27,6 +27,7 @@ public final class AnswerEdgesTest {
         lowestOfSeveralNearest();
         setsOfATour();
         sizesOfATour();
+        everyOrderOfATour();
         placesOfATour();
         firstOfSeveralTours();
         toursFromThePresentState();
@@ -259,6 +260,12 @@ public final class AnswerEdgesTest {
         Checks.due("one within the limits", scope.nearest(), 2);
         scope.undo();
         Checks.due("none again", scope.nearest(), NONE);
+        BentScope other = new BentScope();
+        other.set(3, 0);
+        other.set(4, 5400);
+        Checks.due("no star within the widest limits", other.nearest(), NONE);
+        other.addStar(9000, 5400);
+        Checks.due("the only star", other.nearest(), 0);
     }
 
     /** "Finds the star within the limits to which the slew would take the least time now." */
@@ -352,6 +359,44 @@ public final class AnswerEdgesTest {
         Checks.due("one", scope.tour(4, NONE), 5000);
         Checks.due("two", scope.tour(6, NONE), 5000);
         Checks.due("five", scope.tour(31, NONE), 5000);
+    }
+
+    /** "Finds the order of some stars": the first one and the last one, too. */
+    private static void everyOrderOfATour() {
+        for (int size = 1; size <= 5; size++) {
+            tryOrders(new int[size], 0, 0);
+        }
+    }
+
+    /** Puts each star that is not used yet at the next place, and so on until the order is full. */
+    private static void tryOrders(int[] order, int place, int used) {
+        if (place == order.length) {
+            dueOrder(order);
+            return;
+        }
+        for (int star = 0; star < order.length; star++) {
+            if ((used >> star & 1) == 0) {
+                order[place] = star;
+                tryOrders(order, place + 1, used | 1 << star);
+            }
+        }
+    }
+
+    /** The stars stand in a row, so that going along it is the shortest. */
+    private static void dueOrder(int[] order) {
+        BentScope scope = new BentScope();
+        int[] azimuths = new int[order.length];
+        for (int place = 0; place < order.length; place++) {
+            azimuths[order[place]] = 1000 * (place + 1);
+        }
+        for (int azimuth : azimuths) {
+            scope.addStar(azimuth, 2700);
+        }
+        int set = (1 << order.length) - 1;
+        Checks.due("the sum", scope.tour(set, NONE), 17 * order.length);
+        for (int place = 0; place < order.length; place++) {
+            Checks.due("place " + place, scope.tour(set, place), order[place]);
+        }
     }
 
     /** "Throws IndexOutOfBoundsException if place is neither NONE nor a place of the order" */

@@ -184,14 +184,14 @@ public final class LearnEdgesTest {
     /** "Returns the lessons of the region then." */
     private static void lessonsOfTheRegionThen() {
         BentScope scope = new BentScope();
-        scope.addStar(0, 2700);
+        scope.addStar(0, 700);
         scope.addStar(21599, 5000);
         int[] stars = {0, 1, 0, 0, 1};
         int[] lessons = {1, 1, 2, 3, 2};
         for (int i = 0; i < stars.length; i++) {
             scope.aim(stars[i]);
             Checks.due("learn", scope.learn(), lessons[i]);
-            Checks.due("lessons", scope.lessons(stars[i] == 0 ? 1 : 23), lessons[i]);
+            Checks.due("lessons", scope.lessons(stars[i] == 0 ? 0 : 23), lessons[i]);
             Checks.due("lessons of all", scope.value(8), i + 1);
             Checks.due("regions with a lesson", scope.value(9), i == 0 ? 1 : 2);
         }

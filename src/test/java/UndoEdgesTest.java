@@ -292,6 +292,14 @@ public final class UndoEdgesTest {
 
     /** "if there was an aim, Double.doubleToLongBits() of miss() for 0 to 2" */
     private static void digestOfMisses() {
+        for (int bend : new int[] {0, 1, -1, 2, -2, 3, 4, 64, 120}) {
+            Digests.due("a miss of " + bend, () -> {
+                BentScope scope = new BentScope();
+                scope.setBend(0, 2, bend);
+                scope.aim(scope.addStar(0, 1234));
+                return scope;
+            });
+        }
         for (int bend = -120; bend <= 120; bend += 8) {
             int azimuthBend = bend;
             Digests.due("misses", () -> {
